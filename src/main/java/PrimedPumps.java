@@ -1072,10 +1072,17 @@ public final class PrimedPumps {
         private final int[] need = new int[MOST_PUMPS];
         private final int[] yields = new int[MOST_PUMPS];
         private final int[] fails = new int[MOST_PUMPS];
-        /** By set and last pump: the most water behind running that last, all of the set having run. */
+        /** By set and last pump: the most water behind running that last, all of the set having run.
+         *  Where the last isn't of the set it stays CANNOT for good, so that no reader has to ask. */
         private final int[] most = new int[SETS * MOST_PUMPS];
         /** By set and last pump: the least water there with which the rest of a plan can be had. */
         private final int[] wanted = new int[SETS * MOST_PUMPS];
+
+        Planner() {
+            for (int i = 0; i < SETS * MOST_PUMPS; i++) {
+                most[i] = CANNOT;
+            }
+        }
 
         void lay(Road road, int drought) {
             pumps = road.size;
@@ -1184,17 +1191,22 @@ public final class PrimedPumps {
         // ---- the best plan
 
         int mostWith(int w) {
-            spread(START, w, able);
-            int best = carried(w, START, HOME);
-            for (int set = 1; set < 1 << pumps; set++) {
+            return mostFrom(1, w, carried(w, START, HOME));
+        }
+
+        /** As good as a best so far, or better by a set from one on; those below it stand in the table. */
+        private int mostFrom(int leastSet, int w, int bestSoFar) {
+            spread(leastSet, START, w, able);
+            int best = bestSoFar;
+            for (int set = leastSet; set < 1 << pumps; set++) {
                 best = Math.max(best, mostHome(set));
             }
             return best;
         }
 
         /** Fills the table of most water, for plans that begin with one of the firsts. */
-        private void spread(int from, int w, int firsts) {
-            for (int set = 1; set < 1 << pumps; set++) {
+        private void spread(int leastSet, int from, int w, int firsts) {
+            for (int set = leastSet; set < 1 << pumps; set++) {
                 if ((set & ~able) == 0) {
                     for (int last = 0; last < pumps; last++) {
                         if (isIn(last, set)) {
@@ -1212,11 +1224,9 @@ public final class PrimedPumps {
         private int mostComing(int set, int place) {
             int best = CANNOT;
             for (int last = 0; last < pumps; last++) {
-                if (isIn(last, set)) {
-                    int had = most[set * MOST_PUMPS + last];
-                    if (had != CANNOT) {
-                        best = Math.max(best, carried(had, last, place));
-                    }
+                int had = most[set * MOST_PUMPS + last];
+                if (had > best) {
+                    best = Math.max(best, carried(had, last, place));
                 }
             }
             return best;
@@ -1365,7 +1375,7 @@ public final class PrimedPumps {
             int smallest = 0;
             for (int first = 0; first < pumps; first++) {
                 if (isIn(first, able)) {
-                    spread(first, need[first], 1 << first);
+                    spread(1, first, need[first], 1 << first);
                     for (int set = 1; set < 1 << pumps; set++) {
                         if (isRing(set, first) && comesBefore(set, smallest)) {
                             smallest = set;
@@ -1404,6 +1414,7 @@ public final class PrimedPumps {
 
         /** The caller has asked whether there is place for one more pump. */
         int bestSpring(int w) {
+            int without = mostWith(w);
             int fresh = pumps;
             pumps++;
             able |= 1 << fresh;
@@ -1414,7 +1425,7 @@ public final class PrimedPumps {
             for (int m = 0; m <= MOST_MILE; m++) {
                 mile[fresh] = m;
                 measure();
-                int brought = mostWith(w);
+                int brought = mostFrom(1 << fresh, w, without);
                 if (brought > best) {
                     best = brought;
                     bestMile = m;
@@ -1464,54 +1475,38 @@ public final class PrimedPumps {
         long partsBringing(int w, int v) {
             long sum = 0;
             for (int failing = 0; failing < 1 << planned; failing++) {
-                if (broughtIf(failing, w) >= v) {
-                    sum += partsOf(failing, w);
-                }
+                sum += weighed(failing, w, v);
             }
             return sum;
         }
 
         /** What the plan brings times its parts, over all. */
         long sumBrought(int w) {
-            long sum = 0;
-            for (int failing = 0; failing < 1 << planned; failing++) {
-                sum += broughtIf(failing, w) * partsOf(failing, w);
-            }
-            return sum;
+            return partsBringing(w, NOTHING);
         }
 
-        private int broughtIf(int failing, int w) {
-            int place = START;
-            int water = w;
-            for (int i = 0; i < planned; i++) {
-                water = triedAt(i, failing, carried(water, place, plan[i]));
-                place = plan[i];
-            }
-            return carried(water, place, HOME);
-        }
-
-        private long partsOf(int failing, int w) {
+        /** The parts of one set of failing pumps if v or more comes home; v NOTHING: times what comes. */
+        private long weighed(int failing, int w, int v) {
             long parts = 1;
             int place = START;
             int water = w;
             for (int i = 0; i < planned; i++) {
                 int p = plan[i];
                 water = carried(water, place, p);
-                // A pump that can't be run has nothing to fail at: all its parts are with not failing.
-                int failsThere = ran(p, water) == CANNOT ? 0 : fails[p];
-                parts *= isIn(i, failing) ? failsThere : TWELFTHS - failsThere;
-                water = triedAt(i, failing, water);
                 place = p;
+                int behind = ran(p, water);
+                // A pump that can't be run has nothing to fail at: all its parts are with not failing.
+                int failsThere = behind == CANNOT ? 0 : fails[p];
+                parts *= isIn(i, failing) ? failsThere : TWELFTHS - failsThere;
+                if (behind != CANNOT) {
+                    water = isIn(i, failing) ? water - need[p] : behind;
+                }
             }
-            return parts;
-        }
-
-        private int triedAt(int i, int failing, int water) {
-            int behind = ran(plan[i], water);
-            if (behind == CANNOT) {
-                return water;
+            int brought = carried(water, place, HOME);
+            if (v == NOTHING) {
+                return parts * brought;
             }
-            return isIn(i, failing) ? water - need[plan[i]] : behind;
+            return brought >= v ? parts : 0;
         }
     }
 }
