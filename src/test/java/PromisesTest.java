@@ -62,6 +62,7 @@ public final class PromisesTest {
         days();
         run();
         failing();
+        seed();
         can();
         village();
         night();
@@ -369,6 +370,8 @@ public final class PromisesTest {
         due(x.now(0), 29);
         due(x.now(1), 8);
         due(x.go(38), 7);
+        due(x.go(48), STATE);
+        due(x.now(0), 38);
         due(x.night(), STATE);
         due(x.now(3), 23);
     }
@@ -417,12 +420,19 @@ public final class PromisesTest {
     private static void failing() {
         promise(9);
         row = 100;
+        failing(1);
+        failing(5);
+        failing(11);
+    }
+
+    private static void failing(int twelfths) {
         int z = 1;
         int used = 0;
-        PrimedPumps x = road("pump at 0 gives 9 fails 5");
+        PrimedPumps x = road("pump at 0 gives 9");
+        x.change(0, 3, twelfths);
         for (int i = 0; i < 60; i++) {
             z = drawn(z);
-            boolean fails = (z >>> 8) % 12 < 5;
+            boolean fails = (z >>> 8) % 12 < twelfths;
             used += fails ? 0 : 1;
             x.water(10);
             due(x.run(0), fails ? 7 : 16);
@@ -437,12 +447,19 @@ public final class PromisesTest {
         }
         due(x.now(5), 0);
         due(x.now(6), 0);
+    }
+
+    private static void seed() {
         promise(31);
-        due(x.seed(-7), z);
+        PrimedPumps x = new PrimedPumps();
+        due(x.seed(-7), 1);
         due(x.count(6), -7);
-        x.seed(BEYOND);
+        due(x.seed(MIN), -7);
+        due(x.seed(BEYOND), MIN);
+        // An answer that looks like a finding, and is none.
+        due(x.count(6), BEYOND);
         due(x.seed(0), BEYOND);
-        due(x.status(-1), x.status(4));
+        due(x.status(-1), 0);
     }
 
     private static void can() {
@@ -725,6 +742,22 @@ public final class PromisesTest {
         due(x.spring(41), BEYOND);
         due(x.count(0), 8);
         due(new PrimedPumps().spring(0), 0);
+        springElsewhere();
+    }
+
+    private static void springElsewhere() {
+        PrimedPumps x = road("pump at 20 gives 30;spills 2");
+        x.go(21);
+        x.image();
+        x.pump(0, 0, 60);
+        x.most(9);
+        x.undo();
+        due(x.spring(9), 20);
+        // Each mile spills a bucket: only where he is one more helps.
+        PrimedPumps y = road("pump at 99 gives 60;pump at 99 gives 60;pump at 99 gives 60;spills 1;room 999");
+        y.go(99);
+        due(y.spring(19), 99);
+        due(y.spring(20), 0);
     }
 
     private static void matters() {
@@ -902,6 +935,16 @@ public final class PromisesTest {
         x.go(99);
         x.run(2);
         due(x.judge(0, 40), 1);
+        int[] noPumps = {8, -1, MAX, MIN, 10, 79};
+        for (int no : noPumps) {
+            PrimedPumps y = road("pump at 0;pump at 0;pump at 0;pump at 0;pump at 0;pump at 0;pump at 0;pump at 0");
+            y.sheet(3, 32, 2);
+            y.write(3, 1, no);
+            due(y.judge(3, 40), 2);
+            due(y.barrel(3, 40), STATE);
+            y.write(3, 0, no);
+            due(y.judge(3, 40), 1);
+        }
     }
 
     private static void feed() {
@@ -971,13 +1014,15 @@ public final class PromisesTest {
             "pump at 3 fails", "pump at 3 fails 1 gives 1", "pump at 3 gives 1 gives 1", "pump at 3 3", "pump at 3,",
             "pumpat 3", "pumps at 3", "Pump at 3", "pump at 3;", "pump at 3; ", "pump at 3;;", "room 0", "room 1000", "room",
             "room room", "spills 100", "water 41", "drought 10", "drought", "3", "at 3", "gives 3", "pump\tat 3", "room 5 spills",
-            "pump 3", "pump ;at 3", "well at 3", "room 5;water 6", "water 6;room 5", "pump at -1", "room 3\n", "water 99999999999"};
+            "pump 3", "pump ;at 3", "well at 3", "room 5;water 6", "water 6;room 5", "pump at -1", "room 3\n", "water 99999999999",
+            "spills", "water", "spills ;", "gump at 3", "pump it 3", "roomz 5", "room 5z", "pump at 3 gives 3 kails 3"};
         int[] faults = {0, 3, 0, 4, 5, 8, 8, 8, 8, 8,
             15, 16, 16, 16, 16,
             15, 18, 18, 10, 9,
             0, 0, 0, 10, 11, 10, 5, 5, 4,
             5, 7, 6, 8, 7, 0, 0, 0, 4, 7,
-            5, 5, 0, 13, 13, 8, 6, 6};
+            5, 5, 0, 13, 13, 8, 6, 6,
+            6, 5, 7, 0, 5, 0, 6, 18};
         for (int i = 0; i < texts.length; i++) {
             PrimedPumps x = new PrimedPumps();
             x.image();
@@ -1001,6 +1046,15 @@ public final class PromisesTest {
         due(told(x, "water 10;room 10"), 2);
         due(told(x, "water 11"), -1 - 6);
         due(told(x, "room 11;water 11"), 2);
+        x.rule(2, 5);
+        due(told(x, "drought 0;water 0"), 2);
+        due(x.rule(2, 0), 0);
+        // What an earlier text left behind the end isn't read.
+        due(told(x, "room 75"), 1);
+        due(told(x, "room 7"), 1);
+        due(x.rule(0, 7), 7);
+        due(told(x, "rooms"), -1 - 0);
+        due(told(x, "room"), -1 - 4);
         for (int b = 0; b < 256; b++) {
             PrimedPumps y = new PrimedPumps();
             y.feed(b, 1);
@@ -1025,6 +1079,25 @@ public final class PromisesTest {
         feedAll(z, brim.toString().replace(";xx ", "    "));
         due(z.count(5), 120);
         due(z.text(), 13);
+        feedAll(z, brim.toString().replace(";xx ", "0000").replaceFirst("70000$", "00007"));
+        due(z.count(5), 120);
+        due(z.text(), 13);
+        feedAll(z, brim.toString().replace("xx ", "xxx"));
+        due(z.count(5), 120);
+        due(z.text(), -1 - 117);
+        // A text leaves all else as it was.
+        PrimedPumps t = road("spring at 5;pump at 5");
+        t.go(5);
+        t.run(0);
+        t.hold(3, 1);
+        t.seed(77);
+        due(told(t, "spring at 6"), 1);
+        due(t.of(0, 5), 1);
+        due(t.of(0, 4), 1);
+        due(t.of(2, 5), 0);
+        due(t.now(0), 5);
+        due(t.as(3, 0), 1);
+        due(t.count(6), 77);
     }
 
     private static void spots() {
@@ -1220,6 +1293,36 @@ public final class PromisesTest {
         due(x.image(), 1);
         due(x.undo(), 3);
         due(x.status(3), 1);
+        imageOnTheWay();
+    }
+
+    private static void imageOnTheWay() {
+        promise(44);
+        row = 100;
+        PrimedPumps x = road("spring at 30;spring at 30");
+        x.go(30);
+        x.run(0);
+        x.image();
+        x.run(1);
+        x.go(7);
+        x.undo();
+        due(x.now(0), 30);
+        due(x.now(3), 3);
+        due(x.of(0, 5), 1);
+        due(x.of(1, 5), 0);
+        due(x.run(1), 2);
+        x.night();
+        x.undo();
+        due(x.now(4), 0);
+        due(x.of(0, 5), 1);
+        due(x.pump(2, 30, 1), 2);
+        x.run(2);
+        x.undo();
+        due(x.count(0), 2);
+        due(x.of(2, 0), BEYOND);
+        due(x.pump(2, 30, 1), 2);
+        due(x.of(2, 4), 0);
+        due(x.of(2, 5), 0);
     }
 
     /** Changes all that there is. */
