@@ -871,12 +871,12 @@ public final class PrimedPumps {
 
     /** The tape, and the reader of the text on it. */
     private static final class Tape {
-        static final int WORD = 0;
-        static final int NUMBER = 1;
-        static final int SIGN = 2;
-        static final int END = 3;
-        static final int FALSE_BYTE = 4;
-        static final int MOST_NUMBER = 999;
+        private static final int WORD = 0;
+        private static final int NUMBER = 1;
+        private static final int SIGN = 2;
+        private static final int END = 3;
+        private static final int FALSE_BYTE = 4;
+        private static final int MOST_NUMBER = 999;
 
         final int[] bytes = new int[MOST_BYTES];
         int length = 0;
@@ -1053,7 +1053,7 @@ public final class PrimedPumps {
      * a run, so of all orders of one set with one last pump only the most water has to be known.
      */
     private static final class Planner {
-        static final int ANY = -1;
+        private static final int ANY = -1;
         private static final int START = MOST_PUMPS;
         private static final int HOME = MOST_PUMPS + 1;
         private static final int PLACES = MOST_PUMPS + 2;
