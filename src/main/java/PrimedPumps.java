@@ -1018,7 +1018,7 @@ public final class PrimedPumps {
                 token = END;
             } else if (isLetter(begin)) {
                 token = WORD;
-                while (isLetter(behind)) {
+                while (behind < length && isLetter(behind)) {
                     behind++;
                 }
             } else if (isDigit(begin)) {
@@ -1032,19 +1032,20 @@ public final class PrimedPumps {
 
         private void nextNumber() {
             number = 0;
-            while (isDigit(behind)) {
+            while (behind < length && isDigit(behind)) {
                 // Held just above what may stand, however many digits come.
                 number = Math.min(MOST_NUMBER + 1, number * 10 + bytes[behind] - '0');
                 behind++;
             }
         }
 
+        /** The caller has asked whether the place is on the tape. */
         private boolean isLetter(int place) {
-            return place < length && bytes[place] >= 'a' && bytes[place] <= 'z';
+            return bytes[place] >= 'a' && bytes[place] <= 'z';
         }
 
         private boolean isDigit(int place) {
-            return place < length && bytes[place] >= '0' && bytes[place] <= '9';
+            return bytes[place] >= '0' && bytes[place] <= '9';
         }
     }
 
