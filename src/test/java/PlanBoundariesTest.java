@@ -183,6 +183,18 @@ public final class PlanBoundariesTest extends Sentences {
         due(in(PlanBoundariesTest::eight).row(999), 999);
         due(road("pump at 0 gives 60;pump at 0 gives 9").row(15), 21);
         due(road("pump at 0 gives 9;pump at 0 gives 60").row(15), 40);
+        PrimedPumps x = in(PlanBoundariesTest::eight);
+        x.change(7, 1, 10);
+        due(x.row(20), 20 + 8 * 40 - 4);
+        due(x.most(20), 20 + 8 * 40 - 4);
+        sentence("14: whatever was asked before");
+        x = road("pump at 0 gives 9;pump at 0 gives 60;room 999");
+        due(x.row(20), 66);
+        due(x.order(4, 0), 0);
+        x.change(0, 2, 60);
+        x.change(1, 2, 9);
+        due(x.order(4, 0), 1);
+        due(x.row(4), 10);
     }
 
     private static void most() {
@@ -243,6 +255,10 @@ public final class PlanBoundariesTest extends Sentences {
         orderIs("pump at 0 gives 30;pump at 0 gives 60", 40);
         orderIs("spring at 5", 3);
         orderIs("pump at 0 gives 1", 3);
+        // 8 there, 22, 20 at the other: just its NEED, coming from the first.
+        orderIs("pump at 10 gives 22;pump at 20 gives 60;room 99", 10, 0, 1);
+        orderIs("pump at 20 gives 60;pump at 10 gives 22;room 99", 10, 1, 0);
+        orderIs("pump at 10 gives 21;pump at 20 gives 60;room 99", 9, 0);
         sentence("16: then the one that has the least number first");
         orderIs("pump at 0 gives 60;pump at 0 gives 60", 20, 0);
         // 0 and 3 would do, and 2 and 1, and 2 and 3.
@@ -448,6 +464,10 @@ public final class PlanBoundariesTest extends Sentences {
         String three = "pump at 99 gives 60;pump at 99 gives 60;pump at 99 gives 60;spills 1;room 999";
         due(roadAt(99, three).spring(19), 99);
         due(roadAt(98, three).spring(20), 98);
+        sentence("24: a SPRING gives 1, and needs 0");
+        due(roadAt(99, three).spring(18), 0);
+        due(roadAt(99, three).spring(20), 0);
+        due(roadAt(99, "room 40").spring(0), 0);
         sentence("24: FULL.");
         due(in(Sentences::busy).spring(0) >= 0 ? 1 : 0, 1);
         refused(Sentences::crowded, FULL, y -> y.spring(0));
@@ -466,6 +486,9 @@ public final class PlanBoundariesTest extends Sentences {
         due(road("pump at 99 gives 30;spills 0").matters(10), 99);
         due(road("pump at 99 gives 30;spills 99").matters(10), 99);
         due(roadAt(99, "room 40").matters(1), 99);
+        for (int mile = 1; mile <= 99; mile++) {
+            due(roadAt(mile, "room 40").matters(1), mile);
+        }
         sentence("25: NONE.");
         refused(Sentences::fresh, NONE, x -> x.matters(0));
         refused(Sentences::fresh, NONE, x -> x.matters(40));
@@ -492,6 +515,10 @@ public final class PlanBoundariesTest extends Sentences {
         due(road("pump at 0 gives 9;room 3").room(3), 9);
         due(road("pump at 0 gives 9;room 3").room(2), 2);
         due(road("pump at 10 gives 20;room 10").room(9), 20);
+        PrimedPumps y = road("pump at 0 gives 9");
+        for (int w = 0; w <= 40; w++) {
+            due(y.room(w), w < 3 ? Math.max(1, w) : w + 6);
+        }
         sentence("26: and ROOM stays");
         PrimedPumps x = road("pump at 0 gives 9;room 3");
         x.room(3);
@@ -558,6 +585,16 @@ public final class PlanBoundariesTest extends Sentences {
         x = road("deep at 0 gives 20 fails 11;pump at 0 gives 60;room 999");
         due(x.odds(30, 60), 144);
         due(x.odds(29, 60), 12);
+        // 10 there, 30, 28 at home, 68; 8 if the other fails; nothing if the first does.
+        x = road("pump at 10 gives 30 fails 6;pump at 0 gives 60 fails 3;room 99");
+        due(x.odds(12, 68), 54);
+        due(x.odds(12, 69), 0);
+        due(x.odds(12, 8), 72);
+        due(x.odds(12, 9), 54);
+        due(x.mean(12), 54 * 68 + 18 * 8);
+        // Failing there 22 are left, 20 at home: just the NEED of the other; with one less it can't.
+        due(x.odds(34, 60), 108);
+        due(x.odds(33, 60), 54);
     }
 
     private static void mean() {
@@ -673,6 +710,10 @@ public final class PlanBoundariesTest extends Sentences {
         due(in(told("room 999", 8)).barrel(2, 999), 999);
         due(in(told("spring at 0;room 40", 8, 0)).barrel(2, 40), 39);
         due(in(told("pump at 10 gives 9", 8, 0)).barrel(2, 0), 0);
+        due(in(told("pump at 0 gives 30;pump at 0 gives 60;room 99", 8, 0, 1)).barrel(2, 70), 10);
+        due(in(told("pump at 0 gives 30;pump at 0 gives 60;room 99", 8, 0, 1)).barrel(2, 30), NONE);
+        due(in(told("pump at 0 gives 30;pump at 0 gives 60;room 99", 8, 1, 0)).barrel(2, 30), 10);
+        due(in(told("pump at 0 gives 30;pump at 0 gives 60;room 99", 8, 1, 0)).barrel(2, 80), 20);
         sentence("32: NONE.");
         refused(told("pump at 0 gives 60;room 30", 8, 0), NONE, y -> y.barrel(2, 20));
         refused(told("pump at 0 gives 60;room 30", 8, 0), NONE, y -> y.barrel(2, 29));

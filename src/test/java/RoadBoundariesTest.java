@@ -540,6 +540,27 @@ public final class RoadBoundariesTest extends Sentences {
         hoursOn(14, 99, 23, 0);
         hoursOn(15, 99, 0, 1);
         hoursOn(22, 20, 0, 1);
+        allEight(y -> {
+            y.rule(3, 23);
+            y.go(10);
+        });
+        sentence("13: TODAY is no more for all by night");
+        allEight(PrimedPumps::night);
+    }
+
+    private static void allEight(State newDay) {
+        PrimedPumps x = new PrimedPumps();
+        for (int p = 0; p < 8; p++) {
+            x.pump(2, 0, 9);
+            x.run(p);
+        }
+        due(x.count(1), 8);
+        newDay.on(x);
+        due(x.now(4), 1);
+        for (int p = 0; p < 8; p++) {
+            due(x.of(p, 5), 0);
+            due(x.of(p, 4), 1);
+        }
     }
 
     /** DAY 999, which no object sees within the 512 calls that count; the bound is looked at all the same. */

@@ -7,6 +7,7 @@ public final class TextBoundariesTest extends Sentences {
         feedOrder();
         wipe();
         words();
+        otherLetters();
         numbers();
         blanks();
         items();
@@ -165,6 +166,33 @@ public final class TextBoundariesTest extends Sentences {
         faulty("pump at 3 give 3", 10);
         faulty("pump at 3 fail 3", 10);
         faulty("pump at 3 room 3", 10);
+    }
+
+    private static void otherLetters() {
+        sentence("36: another WORD, by any one letter");
+        for (String word : new String[] {"room", "spills", "water", "drought"}) {
+            otherLetters("", word, " 7");
+        }
+        for (String kind : KINDS) {
+            otherLetters("", kind, " at 7");
+        }
+        otherLetters("pump ", "at", " 7");
+        otherLetters("pump at 7 ", "gives", " 7");
+        otherLetters("pump at 7 ", "fails", " 7");
+        otherLetters("pump at 7 gives 7 ", "fails", " 7");
+    }
+
+    private static void otherLetters(String before, String word, String behind) {
+        due(told(new PrimedPumps(), before + word + behind), 1);
+        for (int i = 0; i < word.length(); i++) {
+            String other = word.substring(0, i) + "q" + word.substring(i + 1);
+            due(told(new PrimedPumps(), before + other + behind), -1 - before.length());
+            String shorter = word.substring(0, i) + word.substring(i + 1);
+            due(told(new PrimedPumps(), before + shorter + behind), -1 - before.length());
+            String longer = word.substring(0, i) + "q" + word.substring(i);
+            due(told(new PrimedPumps(), before + longer + behind), -1 - before.length());
+        }
+        due(told(new PrimedPumps(), before + word + "q" + behind), -1 - before.length());
     }
 
     private static void numbers() {
