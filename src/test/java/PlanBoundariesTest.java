@@ -326,6 +326,16 @@ public final class PlanBoundariesTest extends Sentences {
         due(road("pump at 5 gives 5").keep(), 3);
         due(road("pump at 99 gives 60;room 999").keep(), 39);
         due(road("pump at 0 gives 60;pump at 0 gives 9").keep(), 3);
+        // 1 spilt there, 2 poured in, 6 come, 5 at home.
+        due(road("morning at 2 gives 3;shared at 1 gives 1;room 64;spills 2").keep(), 3);
+        // From 22 on 6 are spilt and 18 wanted: what the way to the first pump costs counts in full.
+        due(roadAt(22, "faint at 2 gives 49;room 96;spills 3").keep(), 24);
+        // 99 spilt and 20 wanted; one pump makes 60 of that, three make 140.
+        due(roadAt(99, "pump at 0 gives 60;room 999;spills 1").keep(), NONE);
+        String three = "pump at 0 gives 60;pump at 0 gives 60;pump at 0 gives 60;spills 1;room ";
+        due(roadAt(99, three + 999).keep(), 119);
+        due(roadAt(99, three + 120).keep(), 119);
+        due(roadAt(99, three + 119).keep(), NONE);
         sentence("19: NONE.");
         refused(Sentences::fresh, NONE, PrimedPumps::keep);
         refused(x -> lay(x, "pump at 0 gives 60;room 20"), NONE, PrimedPumps::keep);

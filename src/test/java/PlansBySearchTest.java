@@ -45,6 +45,9 @@ public final class PlansBySearchTest {
             askPlan(x, w, trial);
             due(trial, "spring", x.spring(w), FULL);
         }
+        for (int trial = 764; trial < 6764; trial++) {
+            askKeepFromAway(dice, trial);
+        }
         System.out.println(asked + " answers asked, " + wrong + " wrong");
         if (wrong != 0) {
             System.exit(1);
@@ -273,6 +276,29 @@ public final class PlansBySearchTest {
         due(trial, "keep", x.keep(), keep);
         due(trial, "leastFor " + v, x.leastFor(v), leastFor);
         due(trial, "ring", x.ring(), ring());
+    }
+
+    /** Few pumps, some that take more than they give, and the carrier anywhere: where keep() could stop too early. */
+    private static void askKeepFromAway(Random dice, int trial) {
+        PrimedPumps x = new PrimedPumps();
+        int far = new int[] {4, 15, 40, 100}[dice.nextInt(4)];
+        int givesMost = new int[] {3, 12, 60}[dice.nextInt(3)];
+        int pumps = 1 + dice.nextInt(3);
+        for (int p = 0; p < pumps; p++) {
+            x.pump(dice.nextBoolean() ? 6 : dice.nextInt(7), dice.nextInt(far), 1 + dice.nextInt(givesMost));
+        }
+        room = 1 + dice.nextInt(dice.nextBoolean() ? 200 : 40);
+        spills = dice.nextInt(7);
+        x.rule(0, room);
+        x.rule(1, spills);
+        x.go(dice.nextBoolean() ? 0 : dice.nextInt(far));
+        x.rule(3, dice.nextInt(12));
+        see(x);
+        int keep = NONE;
+        for (int w = 0; w <= room && keep == NONE; w++) {
+            keep = search(w) > w ? w : keep;
+        }
+        due(trial, "keep", x.keep(), keep);
     }
 
     private static void askDear(PrimedPumps x, int w, int trial) {
