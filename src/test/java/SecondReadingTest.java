@@ -20,7 +20,6 @@ public final class SecondReadingTest {
         "can", "pour", "fill", "night", "rust", "seed", "feed", "wipe", "text", "hold", "as", "sheet", "write", "write", "write",
         "copy", "copy", "load", "image", "tear", "count", "count", "status"};
     private static final String[] KINDS = {"pump", "deep", "spring", "tired", "shared", "morning", "faint"};
-
     private static final String[] STRAY = {" ", ";", "0", "7", "a", "#", "\n", "\u00e4", " fails 3", " gives 4"};
     private static final int[] BITS = {0, 8, 16, 32, 8, 8, 8, 24};
 
@@ -64,7 +63,7 @@ public final class SecondReadingTest {
         System.out.println(asked + " answers asked, " + findings + " of them findings, 0 wrong");
     }
 
-    /** One call of so many is about plans, of which all others are cheap. */
+    /** One step of so many asks about plans, which is slow with many pumps in the second reading. */
     private void go(int seldom) throws Exception {
         TOLD.clear();
         layOut();
@@ -91,7 +90,7 @@ public final class SecondReadingTest {
         return words[dice.nextInt(words.length)];
     }
 
-    /** Some pumps to begin with, and now and then a spot that holds one. */
+    /** Some pumps to begin with, each held by a spot. */
     private void layOut() throws Exception {
         int pumps = dice.nextInt(mostPumps + 1);
         for (int i = 0; i < pumps; i++) {
@@ -167,9 +166,12 @@ public final class SecondReadingTest {
             case 1: return "spills " + dice.nextInt(12);
             case 2: return "water " + dice.nextInt(second.room() + 1);
             case 3: return "drought " + dice.nextInt(11);
-            default: return any(KINDS) + " at " + dice.nextInt(25) + (dice.nextBoolean() ? "" : " gives " + (1 + dice.nextInt(61)))
-                + (dice.nextBoolean() ? "" : " fails " + dice.nextInt(13));
+            default: return any(KINDS) + " at " + dice.nextInt(25) + perhaps(" gives ", 1, 61) + perhaps(" fails ", 0, 12);
         }
+    }
+
+    private String perhaps(String word, int least, int most) {
+        return dice.nextBoolean() ? "" : word + (least + dice.nextInt(most - least + 1));
     }
 
     private void spoil(StringBuilder text) {

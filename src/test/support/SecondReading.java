@@ -5,7 +5,7 @@ import java.util.regex.Matcher;
 import java.util.regex.Pattern;
 
 /**
- * The document read once more, from its first line, without a look at how the class does it: each answer as plainly
+ * The document written down once more, from its first line, in other ways than the class has: each answer as plainly
  * as its words have it, plans by trying every order. What it answers is what the class is asked against.
  */
 final class SecondReading {
